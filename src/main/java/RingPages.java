@@ -759,8 +759,8 @@ public final class RingPages {
         }
 
         private int figureHere() {
-            int letter = letterHere();
-            return letter >= '0' && letter <= '9' ? letter - '0' : -1;
+            boolean isFigure = place < length && letters[place] >= '0' && letters[place] <= '9';
+            return isFigure ? letters[place] - '0' : -1;
         }
 
         private int letterHere() {
