@@ -1,37 +1,28 @@
 import java.io.IOException;
-import java.io.InputStream;
 import java.lang.management.ManagementFactory;
 import java.lang.reflect.Constructor;
 import java.lang.reflect.Field;
 import java.lang.reflect.Method;
 import java.lang.reflect.Modifier;
-import java.nio.charset.StandardCharsets;
-import java.nio.file.Files;
 import java.nio.file.Path;
 import java.util.ArrayList;
 import java.util.Arrays;
 import java.util.List;
 import java.util.Set;
 import java.util.TreeSet;
-import java.util.regex.Matcher;
-import java.util.regex.Pattern;
 
-/** What of LANGUAGE.md a program can look at: the face, the words, the room that calls take. */
+/** What of LANGUAGE.md a program can look at: the face, the rules on the source, the room that calls take. */
 public final class LanguageTest {
     private static final String[] FACE = {
         "int write(int)", "int wipe()", "int fault()", "int lay()", "int set(int,int,int)", "int law(int,int)", "int give()", "int undo()",
         "int cell(int,int)", "int weight(int,int)", "int wide(int,int)", "int tick(int)", "int page()", "int handset(int)", "int where()",
         "int round(int)", "long chance(int,int)", "long mean(int,int)", "int best(int)", "long least(int)", "int walk(int,int,int)",
         "int count(int)"};
-    private static final String[] WORDS = {"throw", "throws", "try", "catch", "finally", "synchronized", "assert", "import", "package", "protected",
-        "native", "volatile", "transient", "double", "float", "hashCode", "toString", "Object", "System\\.(?!arraycopy\\b)\\w+", "\\w+Exact"};
     private static int wrong;
 
     public static void main(String[] args) throws IOException {
         face();
-        classes();
-        words(Files.readString(Path.of("src/main/java/RingPages.java"), StandardCharsets.US_ASCII));
-        noConcatenation();
+        for (String fault : Source.faultsOf(Path.of("src/main/java/RingPages.java"))) must(false, fault);
         room();
         System.out.println(wrong == 0 ? "the language is kept to" : wrong + " faults of language");
         if (wrong != 0) System.exit(1);
@@ -73,43 +64,6 @@ public final class LanguageTest {
             if (Modifier.isStatic(f.getModifiers())) must(Modifier.isFinal(f.getModifiers()), f + " is final");
         }
         must(constants.equals(new TreeSet<>(List.of("BAD", "NO", "FULL", "NONE"))), "the constants are the document's: " + constants);
-    }
-
-    private static void classes() {
-        Class<?>[] inside = RingPages.class.getDeclaredClasses();
-        must(inside.length <= 11, "twelve classes at most");
-        for (Class<?> c : inside) {
-            must(Modifier.isStatic(c.getModifiers()), c + " is static");
-            int fields = 0;
-            for (Field f : c.getDeclaredFields()) if (!Modifier.isStatic(f.getModifiers())) fields++;
-            must(fields <= 20, c + " has twenty fields at most");
-            for (Method m : c.getDeclaredMethods()) must(m.getParameterCount() <= 7, m + " takes seven at most");
-        }
-    }
-
-    private static void words(String source) {
-        String code = source.replaceAll("(?s)/\\*.*?\\*/", " ").replaceAll("//[^\n]*", " ").replaceAll("\"[^\"\n]*\"", "\"\"");
-        for (String word : WORDS) {
-            Matcher m = Pattern.compile("\\b(" + word + ")\\b").matcher(code);
-            must(!m.find(), "the word " + word + " is not used");
-        }
-        must(!code.contains("->") && !code.contains("::"), "no lambda, no method reference");
-        must(!Pattern.compile("static\\s*\\{").matcher(code).find(), "no static initialiser block");
-        must(!Pattern.compile("while\\s*\\(true|for\\s*\\(\\s*;\\s*;").matcher(code).find(), "no loop without an end");
-        int longest = 0, length = 0;
-        for (String line : source.split("\n")) {
-            boolean ends = line.equals("    }") || line.equals("        }");
-            length = ends ? 0 : length + 1;
-            longest = Math.max(longest, length);
-        }
-        must(longest <= 60, "methods stay short: " + longest);
-    }
-
-    private static void noConcatenation() throws IOException {
-        try (InputStream in = RingPages.class.getResourceAsStream("RingPages.class")) {
-            String bytes = new String(in.readAllBytes(), StandardCharsets.ISO_8859_1);
-            must(!bytes.contains("makeConcatWithConstants"), "texts are not joined by +");
-        }
     }
 
     /** After warming up, 512 of the dearest calls make next to nothing. */
